@@ -22,6 +22,8 @@ public final class OutcomeKit {
     /** A token takes one expected part away and brings four at most. */
     private static final int MOST_EXPECTED = 1 + 3 * MOST_TOKENS;
 
+    private static final int ALL_VARIABLES = MOST_WORKING * VARIABLES;
+
     /** Each function at work has each of its tokens begun once at most. */
     private static final int MOST_ENTRIES = MOST_WORKING * MOST_TOKENS;
 
@@ -51,7 +53,7 @@ public final class OutcomeKit {
     private final int[] keptNote = new int[MOST_ENTRIES];
     private final int[] keptValue = new int[MOST_ENTRIES];
     private int entryCount;
-    private final int[] variables = new int[MOST_WORKING * VARIABLES];
+    private final int[] variables = new int[ALL_VARIABLES];
     private int working;
 
     private int ending;

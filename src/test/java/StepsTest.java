@@ -60,6 +60,10 @@ public final class StepsTest {
         Checks.due("301: says()", kit.says(), 0);
         due("no end", kit, -1, OutcomeKit.LONG, 300);
         due("after LONG", kit, 3, OutcomeKit.OK, 5);
+        due("no end again", kit, -1, OutcomeKit.LONG, 300);
+        Checks.give(kit, 0, Code.say(8));
+        due("nothing of LONG goes on", kit, 0, OutcomeKit.OK, 1);
+        Checks.due("nothing of LONG goes on: says()", kit.says(), 1);
     }
 
     private static void edgeAtCalls() {
