@@ -1,25 +1,28 @@
+import java.util.Arrays;
+
 /** Writes programs as rows of (kind, value, kind, value, ...) in prefix order. */
 final class Code {
-    /** The catch-all of a CATCH. */
-    static final int ALL = 4;
-
     private Code() {
     }
 
-    static int[] node(int kind, int value, int[]... parts) {
-        int length = 2;
+    /** These rows one behind the other. */
+    static int[] row(int[]... parts) {
+        int length = 0;
         for (int[] part : parts) {
             length += part.length;
         }
-        int[] code = new int[length];
-        code[0] = kind;
-        code[1] = value;
-        int at = 2;
+        int[] all = new int[length];
+        int at = 0;
         for (int[] part : parts) {
-            System.arraycopy(part, 0, code, at, part.length);
+            System.arraycopy(part, 0, all, at, part.length);
             at += part.length;
         }
-        return code;
+        return all;
+    }
+
+    static int[] node(int kind, int value, int[]... parts) {
+        int[] behind = row(parts);
+        return row(new int[] {kind, value}, behind);
     }
 
     static int[] num(int n) { return node(0, n); }
@@ -62,12 +65,39 @@ final class Code {
     static int[] ensure(int[] s, int[] handler, int[] last) { return node(17, 5, s, handler, last); }
     static int[] ensure(int[] s, int[] first, int[] second, int[] last) { return node(17, 6, s, first, second, last); }
 
-    /** SKIPs in SEQs: an odd number of tokens, 2 n + 1. */
-    static int[] padding(int n) {
-        int[][] skips = new int[n + 1][];
-        for (int i = 0; i <= n; i++) {
-            skips[i] = skip();
+    /** This statement behind others that do nothing, so that there are this many tokens. */
+    static int[] padded(int tokens, int[] statement) {
+        int missing = tokens - statement.length / 2;
+        int[] code = statement;
+        if (missing % 2 == 1) {
+            code = seq(set(5, var(5)), code);
+            missing -= 3;
         }
-        return seq(skips);
+        for (; missing > 0; missing -= 2) {
+            code = seq(skip(), code);
+        }
+        return code;
     }
+
+    /** This statement as the end of a body of 40 tokens. */
+    static int[] forty(int[] statement) { return padded(40, statement); }
+
+    /** The same token many times. */
+    static int[] repeat(int times, int kind, int value) {
+        int[][] tokens = new int[times][];
+        Arrays.fill(tokens, node(kind, value));
+        return row(tokens);
+    }
+
+    /** The first tokens of a program. */
+    static int[] firstOf(int tokens, int[] code) { return Arrays.copyOf(code, 2 * tokens); }
+
+    /** Adds 1 to variable v. */
+    static int[] count(int v) { return set(v, add(var(v), num(1))); }
+
+    /** Counts variable 0 down to 0: as many turns as the argument says, that many + 1 steps. */
+    static int[] countdown() { return loop(0, var(0), set(0, sub(var(0), num(1)))); }
+
+    /** Says its argument and all that is below it, down to 1. */
+    static int[] saying() { return loop(0, var(0), seq(say(var(0)), set(0, sub(var(0), num(1))))); }
 }

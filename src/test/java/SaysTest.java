@@ -1,65 +1,89 @@
-/** Promises 10 and 11: how many SAYs the latest run did, and the first 40 of what they said. */
+/** Promise 10: how many SAYs the latest run did. */
 public final class SaysTest {
     public static void main(String[] args) {
-        none();
-        manySays();
-        latestRun();
-        afterTheEnd();
+        noneYet();
+        upToFortyAndBeyond();
+        theMost();
+        notDone();
+        byAllFunctions();
+        howeverItEnds();
+        latest();
+        refusedRun();
         Checks.end("SaysTest");
     }
 
-    private static void none() {
-        OutcomeKit kit = new OutcomeKit();
-        for (int k : new int[] {Integer.MIN_VALUE, -1, 0, 1, 39, 40, Integer.MAX_VALUE}) {
-            Checks.due("said(" + k + ")", kit.said(k), 0);
-        }
+    private static void says(String what, OutcomeKit kit, int f, int a, int answer, int says) {
+        Checks.due(what + ": run(" + f + ", " + a + ")", kit.run(f, a), answer);
+        Checks.due(what + ": says()", kit.says(), says);
+    }
+
+    private static void noneYet() {
+        Checks.about("Promise 10", "How many SAYs the latest run did");
+        OutcomeKit kit = Checks.kitWith(Code.say(1));
         Checks.due("says()", kit.says(), 0);
+        says("only BAD", kit, 4, 0, OutcomeKit.BAD, 0);
+        says("no body", kit, 1, 0, OutcomeKit.THROWN, 0);
     }
 
-    /** Says argument, argument - 1, ..., 1. */
-    private static int[] saying() {
-        return Code.loop(0, Code.var(0), Code.seq(Code.say(Code.var(0)), Code.set(0, Code.sub(Code.var(0), Code.num(1)))));
-    }
-
-    private static void manySays() {
-        for (int n : new int[] {0, 1, 39, 40, 41, 90, 298}) {
-            OutcomeKit kit = Checks.kitWith(saying());
-            Checks.due(n + " SAYs: run", kit.run(0, n), OutcomeKit.OK);
-            Checks.due(n + " SAYs: says()", kit.says(), n);
-            for (int k = -3; k < 60; k++) {
-                int want = k >= 0 && k < 40 && k < n ? n - k : 0;
-                Checks.due(n + " SAYs: said(" + k + ")", kit.said(k), want);
-            }
-            Checks.due(n + " SAYs: said(MAX)", kit.said(Integer.MAX_VALUE), 0);
-            Checks.due(n + " SAYs: said(MIN)", kit.said(Integer.MIN_VALUE), 0);
+    private static void upToFortyAndBeyond() {
+        Checks.about("Promise 10", "How many SAYs the latest run did");
+        OutcomeKit kit = Checks.kitWith(Code.saying());
+        for (int n : new int[] {0, 1, 2, 38, 39, 40, 41, 42, 79, 80, 81, 255, 256, 257, 298}) {
+            says(n + " SAYs", kit, 0, n, OutcomeKit.OK, n);
         }
-        OutcomeKit kit = Checks.kitWith(Code.loop(0, Code.num(1), Code.seq(Code.say(1), Code.say(2), Code.say(3))));
-        Checks.due("LONG", kit.run(0, 0), OutcomeKit.LONG);
-        Checks.due("LONG: says()", kit.says(), 897);
-        Checks.due("LONG: said(38)", kit.said(38), 3);
-        Checks.due("LONG: said(39)", kit.said(39), 1);
-        Checks.due("LONG: said(40)", kit.said(40), 0);
     }
 
-    private static void latestRun() {
-        OutcomeKit kit = Checks.kitWith(saying());
-        kit.run(0, 50);
-        kit.run(9, 50);
-        Checks.due("says() after BAD", kit.says(), 50);
-        Checks.due("said(39) after BAD", kit.said(39), 11);
-        kit.run(0, 2);
-        Checks.due("says()", kit.says(), 2);
-        Checks.due("said(1)", kit.said(1), 1);
-        Checks.due("said(2)", kit.said(2), 0);
-        kit.run(1, 2);
-        Checks.due("says() after no body", kit.says(), 0);
-        Checks.due("said(0) after no body", kit.said(0), 0);
+    private static void theMost() {
+        Checks.about("Promise 10", "How many SAYs the latest run did");
+        int[] thirteen = Code.say(0);
+        for (int i = 1; i < 13; i++) {
+            thirteen = Code.seq(Code.say(i), thirteen);
+        }
+        OutcomeKit kit = Checks.kitWith(Code.loop(0, Code.num(1), thirteen));
+        says("13 in each turn", kit, 0, 0, OutcomeKit.LONG, 299 * 13);
     }
 
-    private static void afterTheEnd() {
-        Checks.throwsOut("before THROW", Code.seq(Code.say(4), Code.say(-5), Code.raise(0, 1)), 0, 1, 4, -5);
-        Checks.throwsOut("a SAY not done", Code.seq(Code.say(4), Code.say(Code.div(Code.num(1), Code.num(0)))), 0, 1, 4);
-        Checks.returns("a caught one", Code.seq(Code.say(1), Code.attempt(Code.seq(Code.say(2), Code.raise(0, 1)),
-            Code.grab(0, 0, Code.say(3)))), 0, 1, 2, 3);
+    private static void notDone() {
+        Checks.about("Promise 10", "How many SAYs the latest run did");
+        OutcomeKit kit = Checks.kitWith(Code.seq(Code.say(4), Code.say(Code.div(Code.num(1), Code.num(0))), Code.say(5)),
+            Code.say(Code.call(3, Code.num(0))), Code.when(Code.num(0), Code.say(1), Code.skip()));
+        says("its E throws", kit, 0, 0, OutcomeKit.THROWN, 1);
+        says("its E calls no body", kit, 1, 0, OutcomeKit.THROWN, 0);
+        says("in the S that IF does not do", kit, 2, 0, OutcomeKit.OK, 0);
+    }
+
+    private static void byAllFunctions() {
+        Checks.about("Promise 10", "How many SAYs the latest run did");
+        OutcomeKit kit = Checks.kitWith(Code.seq(Code.say(1), Code.say(Code.call(1, Code.num(2)))), Code.seq(Code.say(3), Code.say(4)));
+        says("two each", kit, 0, 0, OutcomeKit.OK, 4);
+        says("the callee alone", kit, 1, 0, OutcomeKit.OK, 2);
+    }
+
+    private static void howeverItEnds() {
+        Checks.about("Promise 10", "How many SAYs the latest run did");
+        OutcomeKit kit = Checks.kitWith(Code.seq(Code.say(1), Code.give(2)), Code.seq(Code.say(1), Code.say(2), Code.raise(0, 1)),
+            Code.seq(Code.say(1), Code.say(2), Code.say(3), Code.loop(0, Code.num(1), Code.skip())), Code.say(0));
+        says("RETURN", kit, 0, 0, OutcomeKit.OK, 1);
+        says("THROW", kit, 1, 0, OutcomeKit.THROWN, 2);
+        says("LONG", kit, 2, 0, OutcomeKit.LONG, 3);
+        says("an end", kit, 3, 0, OutcomeKit.OK, 1);
+    }
+
+    private static void latest() {
+        Checks.about("Promise 10", "the latest run");
+        OutcomeKit kit = Checks.kitWith(Code.saying());
+        says("many", kit, 0, 50, OutcomeKit.OK, 50);
+        says("few", kit, 0, 2, OutcomeKit.OK, 2);
+        says("none", kit, 0, 0, OutcomeKit.OK, 0);
+        says("many again", kit, 0, 50, OutcomeKit.OK, 50);
+        says("no body", kit, 1, 2, OutcomeKit.THROWN, 0);
+    }
+
+    private static void refusedRun() {
+        Checks.about("Promises 6 and 10", "BAD (and nothing changes)");
+        OutcomeKit kit = Checks.kitWith(Code.saying());
+        says("many", kit, 0, 50, OutcomeKit.OK, 50);
+        says("BAD", kit, 4, 2, OutcomeKit.BAD, 50);
+        says("BAD", kit, -1, 2, OutcomeKit.BAD, 50);
     }
 }
