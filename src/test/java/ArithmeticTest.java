@@ -41,7 +41,7 @@ public final class ArithmeticTest {
     }
 
     private static void addWraps() {
-        Checks.about("Terms", "arithmetic wraps");
+        Checks.about("Promise 6, Terms", "arithmetic wraps");
         add(MOST - 1, 1, 2147483647);
         add(MOST, 0, 2147483647);
         add(MOST, 1, -2147483648);
@@ -52,7 +52,7 @@ public final class ArithmeticTest {
     }
 
     private static void subWraps() {
-        Checks.about("Terms", "arithmetic wraps");
+        Checks.about("Promise 6, Terms", "arithmetic wraps");
         sub(LEAST + 1, 1, -2147483648);
         sub(LEAST, 0, -2147483648);
         sub(LEAST, 1, 2147483647);
@@ -63,7 +63,7 @@ public final class ArithmeticTest {
     }
 
     private static void mulWraps() {
-        Checks.about("Terms", "arithmetic wraps");
+        Checks.about("Promise 6, Terms", "arithmetic wraps");
         mul(46340, 46340, 2147395600);
         mul(46341, 46341, -2147479015);
         mul(65536, 32767, 2147418112);
@@ -78,7 +78,7 @@ public final class ArithmeticTest {
     }
 
     private static void wrapsInBetween() {
-        Checks.about("Terms", "arithmetic wraps");
+        Checks.about("Promise 6, Terms", "arithmetic wraps");
         int[] beyond = Code.add(Code.num(MOST), Code.num(1));
         value("beyond and back", Code.sub(beyond, Code.num(1)), MOST);
         value("half of what is beyond", Code.div(beyond, Code.num(2)), -1073741824);
@@ -89,7 +89,7 @@ public final class ArithmeticTest {
     }
 
     private static void less() {
-        Checks.about("Terms", "LESS 1 or 0");
+        Checks.about("Promise 6, Terms", "LESS 1 or 0");
         int[][] below = {{LEAST, MOST}, {LEAST, LEAST + 1}, {LEAST, 0}, {LEAST, 1}, {-1, 0}, {0, 1}, {-2, MOST}, {MOST - 1, MOST}};
         for (int[] pair : below) {
             value(pair[0] + " < " + pair[1], Code.less(Code.num(pair[0]), Code.num(pair[1])), 1);
@@ -101,7 +101,7 @@ public final class ArithmeticTest {
     }
 
     private static void not() {
-        Checks.about("Terms", "NOT (E is 0) 1 or 0");
+        Checks.about("Promise 6, Terms", "NOT (E is 0) 1 or 0");
         for (int n : EDGES) {
             value("NOT " + n, Code.not(Code.num(n)), n == 0 ? 1 : 0);
             value("NOT NOT " + n, Code.not(Code.not(Code.num(n))), n == 0 ? 0 : 1);
@@ -109,7 +109,7 @@ public final class ArithmeticTest {
     }
 
     private static void divRoundsTowardsZero() {
-        Checks.about("Terms", "DIV rounds towards 0");
+        Checks.about("Promise 6, Terms", "DIV rounds towards 0");
         div(6, 3, 2);
         div(7, 2, 3);
         div(-7, 2, -3);
@@ -125,7 +125,7 @@ public final class ArithmeticTest {
     }
 
     private static void leastByMinusOne() {
-        Checks.about("Terms", "DIV (-2147483648 by -1: itself)");
+        Checks.about("Promise 6, Terms", "DIV (-2147483648 by -1: itself)");
         div(LEAST, -1, -2147483648);
         div(LEAST + 1, -1, 2147483647);
         div(LEAST, 1, -2147483648);
@@ -134,7 +134,7 @@ public final class ArithmeticTest {
     }
 
     private static void divByZero() {
-        Checks.about("Terms", "DIV by 0 throws kind 0 with the first operand");
+        Checks.about("Promise 6, Terms", "DIV by 0 throws kind 0 with the first operand");
         for (int n : EDGES) {
             div(n, 1, n);
             Checks.throwsOut(n + " / 0", Code.give(Code.div(Code.num(n), Code.num(0))), 0, n);
@@ -145,7 +145,7 @@ public final class ArithmeticTest {
     }
 
     private static void divAtTheEnds() {
-        Checks.about("Terms", "DIV rounds towards 0");
+        Checks.about("Promise 6, Terms", "DIV rounds towards 0");
         div(LEAST, LEAST, 1);
         div(LEAST, MOST, -1);
         div(MOST, LEAST, 0);
@@ -155,7 +155,7 @@ public final class ArithmeticTest {
     }
 
     private static void allPairs() {
-        Checks.about("Terms", "arithmetic wraps; LESS, NOT 1 or 0; DIV rounds towards 0");
+        Checks.about("Promise 6, Terms", "arithmetic wraps; LESS, NOT 1 or 0; DIV rounds towards 0");
         for (int a : EDGES) {
             OutcomeKit kit = Checks.kitWith(Code.give(Code.add(Code.num(a), Code.var(0))), Code.give(Code.sub(Code.num(a), Code.var(0))),
                 Code.give(Code.mul(Code.num(a), Code.var(0))), Code.give(Code.less(Code.num(a), Code.var(0))));
@@ -176,7 +176,7 @@ public final class ArithmeticTest {
     }
 
     private static void fromTheFirstToTheLast() {
-        Checks.about("Terms", "Operands are worked out from the first to the last");
+        Checks.about("Promise 6, Terms", "Operands are worked out from the first to the last");
         int[] one = Code.call(1, Code.num(1));
         int[] two = Code.call(1, Code.num(2));
         int[] none = Code.call(1, Code.num(0));
@@ -190,7 +190,7 @@ public final class ArithmeticTest {
     }
 
     private static void aThrowStopsTheRest() {
-        Checks.about("Terms", "Operands are worked out from the first to the last; DIV by 0 throws");
+        Checks.about("Promise 6, Terms", "Operands are worked out from the first to the last; DIV by 0 throws");
         int[] one = Code.call(1, Code.num(1));
         int[] broken = Code.div(Code.num(8), Code.num(0));
         Checks.outcome("the first throws", withTeller(Code.give(Code.add(broken, one))), 0, OutcomeKit.THROWN, 8, 0);

@@ -20,7 +20,7 @@ public final class CallsTest {
     }
 
     private static void whatItReturns() {
-        Checks.about("Terms", "CALL f: what f returns");
+        Checks.about("Promise 6, Terms", "CALL f: what f returns");
         int[] doubled = Code.loop(0, Code.num(1), Code.give(Code.mul(Code.var(0), Code.num(2))));
         OutcomeKit kit = Checks.kitWith(Code.give(Code.call(1, Code.var(0))), doubled,
             Code.give(Code.add(Code.call(1, Code.var(0)), Code.call(1, Code.call(1, Code.var(0))))));
@@ -31,14 +31,14 @@ public final class CallsTest {
     }
 
     private static void zeroIfItEndsNormally() {
-        Checks.about("Terms", "CALL f: what f returns (0 if its body ends normally)");
+        Checks.about("Promise 6, Terms", "CALL f: what f returns (0 if its body ends normally)");
         OutcomeKit kit = Checks.kitWith(Code.seq(Code.say(Code.call(1, Code.num(5))), Code.say(Code.call(2, Code.num(6)))),
             Code.set(0, Code.num(3)), Code.say(Code.call(3, Code.num(1))), Code.give(9));
         Checks.outcome("after SET, after SAY", kit, 1, OutcomeKit.OK, 0, -1, 0, 9, 0);
     }
 
     private static void whatItThrows() {
-        Checks.about("Terms", "CALL f: or it throws what f's body throws");
+        Checks.about("Promise 6, Terms", "CALL f: or it throws what f's body throws");
         for (int k = 0; k < 4; k++) {
             OutcomeKit kit = Checks.kitWith(Code.attempt(Code.say(Code.add(Code.num(1), Code.call(1, Code.num(5)))),
                 Code.grab(2, k, Code.seq(Code.say(Code.var(2)), Code.say(Code.var(0)), Code.give(7)))),
@@ -49,7 +49,7 @@ public final class CallsTest {
     }
 
     private static void everyFunction() {
-        Checks.about("Terms", "FUNCTIONS 0..3; f 0..3");
+        Checks.about("Promise 6, Terms", "FUNCTIONS 0..3; f 0..3");
         OutcomeKit kit = Checks.kitWith(Code.give(10), Code.give(11), Code.give(12), Code.give(13));
         for (int f = 0; f < 4; f++) {
             int caller = (f + 1) % 4;
@@ -60,7 +60,7 @@ public final class CallsTest {
     }
 
     private static void noBody() {
-        Checks.about("Terms", "If f has no body, it throws kind 1 with the value f");
+        Checks.about("Promise 6, Terms", "If f has no body, it throws kind 1 with the value f");
         for (int f = 1; f < 4; f++) {
             OutcomeKit kit = Checks.kitWith(Code.say(Code.call(f, Code.num(9))));
             Checks.outcome("never had one", kit, 0, OutcomeKit.THROWN, f, 1);
@@ -75,7 +75,7 @@ public final class CallsTest {
     }
 
     private static void noBodyCanBeCaught() {
-        Checks.about("Terms", "If f has no body, it throws kind 1 with the value f, in the function that calls");
+        Checks.about("Promise 6, Terms", "If f has no body, it throws kind 1 with the value f, in the function that calls");
         Checks.returns("CATCH 1", Code.attempt(Code.say(Code.call(3, Code.num(9))), Code.grab(5, 1, Code.say(Code.var(5)))), 0, 3);
         Checks.throwsOut("CATCH 2", Code.attempt(Code.say(Code.call(3, Code.num(9))), Code.grab(5, 2, Code.say(Code.var(5)))), 1, 3);
         OutcomeKit kit = Checks.kitWith(Code.attempt(Code.give(Code.call(1, Code.num(7))), Code.grab(5, 1, Code.say(Code.var(0)))),
@@ -84,7 +84,7 @@ public final class CallsTest {
     }
 
     private static void theArgumentComesFirst() {
-        Checks.about("Terms", "Operands are worked out; If f has no body, it throws kind 1");
+        Checks.about("Promise 6, Terms", "Operands are worked out; If f has no body, it throws kind 1");
         OutcomeKit kit = Checks.kitWith(Code.give(Code.call(3, Code.call(1, Code.num(1)))), Code.say(Code.var(0)));
         Checks.outcome("SAY in E, then no body", kit, 0, OutcomeKit.THROWN, 3, 1, 1);
     }
@@ -95,7 +95,7 @@ public final class CallsTest {
     }
 
     private static void twelveAtWork() {
-        Checks.about("Terms", "if a function would begin while 12 are at work, kind 2 with the value f");
+        Checks.about("Promise 6, Terms", "if a function would begin while 12 are at work, kind 2 with the value f");
         OutcomeKit kit = Checks.kitWith(down());
         for (int depth = 0; depth < 12; depth++) {
             Checks.outcome("1 + " + depth + " at work", kit, depth, OutcomeKit.OK, depth, -1);
@@ -106,7 +106,7 @@ public final class CallsTest {
     }
 
     private static void theValueIsTheCallee() {
-        Checks.about("Terms", "kind 2 with the value f");
+        Checks.about("Promise 6, Terms", "kind 2 with the value f");
         for (int f = 0; f < 4; f++) {
             OutcomeKit kit = new OutcomeKit();
             Checks.give(kit, f, Code.give(Code.call(f, Code.num(50))));
@@ -118,7 +118,7 @@ public final class CallsTest {
     }
 
     private static void inTheFunctionThatCalls() {
-        Checks.about("Terms", "kind 2 with the value f, in the function that calls");
+        Checks.about("Promise 6, Terms", "kind 2 with the value f, in the function that calls");
         int[] caught = Code.attempt(Code.seq(Code.set(1, Code.call(0, Code.add(Code.var(0), Code.num(1)))), Code.say(Code.var(0))),
             Code.grab(3, 2, Code.say(Code.add(Code.num(100), Code.var(0)))));
         Checks.outcome("the twelfth catches it", Checks.kitWith(caught), 1, OutcomeKit.OK, 0, -1,
@@ -126,7 +126,7 @@ public final class CallsTest {
     }
 
     private static void twelveAtWorkAgain() {
-        Checks.about("Terms", "if a function would begin while 12 are at work");
+        Checks.about("Promise 6, Terms", "if a function would begin while 12 are at work");
         int[] tries = Code.loop(0, Code.less(Code.var(1), Code.num(3)), Code.seq(Code.count(1),
             Code.attempt(Code.say(Code.call(0, Code.var(0))), Code.grab(2, 2, Code.say(77)))));
         OutcomeKit kit = Checks.kitWith(down(), tries);
@@ -139,7 +139,7 @@ public final class CallsTest {
     }
 
     private static void oneAfterTheOther() {
-        Checks.about("Terms", "while 12 are at work");
+        Checks.about("Promise 6, Terms", "while 12 are at work");
         OutcomeKit kit = Checks.kitWith(Code.loop(0, Code.less(Code.var(0), Code.num(50)), Code.set(0, Code.call(1, Code.var(0)))),
             Code.give(Code.add(Code.var(0), Code.num(1))));
         Checks.outcome("fifty that end", kit, 0, OutcomeKit.OK, 0, -1);
@@ -153,13 +153,13 @@ public final class CallsTest {
     }
 
     private static void atFirstInNone() {
-        Checks.about("Terms", "in the function that calls (at first: in none)");
+        Checks.about("Promise 6, Terms", "in the function that calls (at first: in none)");
         OutcomeKit kit = Checks.kitWith(Code.attempt(Code.skip(), Code.grab(0, 4, Code.say(1))));
         Checks.outcomeOf(1, "no body", kit, 0, OutcomeKit.THROWN, 1, 1);
     }
 
     private static void noBodyWhileTwelveAreAtWork() {
-        Checks.about("Terms", "If f has no body, it throws kind 1; if a function would begin while 12 are at work, kind 2");
+        Checks.about("Promise 6, Terms", "If f has no body, it throws kind 1; if a function would begin while 12 are at work, kind 2");
         int[] code = Code.when(Code.var(0), Code.give(Code.call(0, Code.sub(Code.var(0), Code.num(1)))), Code.give(Code.call(3, Code.num(0))));
         OutcomeKit kit = Checks.kitWith(code);
         Checks.outcome("11 at work", kit, 10, OutcomeKit.THROWN, 3, 1);
@@ -168,7 +168,7 @@ public final class CallsTest {
     }
 
     private static void finallyPartsOfTwelve() {
-        Checks.about("Terms", "With a finally part that is done then, however the rest ended");
+        Checks.about("Promise 6, Terms", "With a finally part that is done then, however the rest ended");
         int[] every = Code.ensure(Code.give(Code.call(0, Code.add(Code.var(0), Code.num(1)))), Code.say(Code.var(0)));
         Checks.outcome("each of the twelve", Checks.kitWith(every), 1, OutcomeKit.THROWN, 0, 2,
             12, 11, 10, 9, 8, 7, 6, 5, 4, 3, 2, 1);

@@ -10,30 +10,25 @@ public final class OrderTest {
         Checks.end("OrderTest");
     }
 
-    private static void emptiesAtShape() {
-        Checks.about("Promise 12", "define empties the draft also when it answers SHAPE");
-        int[][] drafts = {new int[0], Code.num(1), Code.node(14, 0, Code.skip()), Code.repeat(40, 14, 0), Code.repeat(40, 15, 0)};
+    private static void empties(int answer, int[]... drafts) {
         for (int[] draft : drafts) {
             OutcomeKit kit = new OutcomeKit();
             Checks.feed(kit, draft);
-            Checks.due("define(0)", kit.define(0), OutcomeKit.SHAPE);
+            Checks.due("define(0)", kit.define(0), answer);
             Checks.refuse("nothing is left", kit, 0, OutcomeKit.SHAPE, 0, new int[0]);
             Checks.give(kit, 0, Code.give(7));
             Checks.outcome("what came then", kit, 0, OutcomeKit.OK, 7, -1);
         }
     }
 
+    private static void emptiesAtShape() {
+        Checks.about("Promise 12", "define empties the draft also when it answers SHAPE");
+        empties(OutcomeKit.SHAPE, new int[0], Code.num(1), Code.node(14, 0, Code.skip()), Code.repeat(40, 14, 0), Code.repeat(40, 15, 0));
+    }
+
     private static void emptiesAtUnbound() {
         Checks.about("Promise 12", "define empties the draft also when it answers UNBOUND");
-        int[][] drafts = {Code.leave(0), Code.again(3), Code.seq(Code.skip(), Code.leave(1)), Code.forty(Code.leave(2))};
-        for (int[] draft : drafts) {
-            OutcomeKit kit = new OutcomeKit();
-            Checks.feed(kit, draft);
-            Checks.due("define(0)", kit.define(0), OutcomeKit.UNBOUND);
-            Checks.refuse("nothing is left", kit, 0, OutcomeKit.SHAPE, 0, new int[0]);
-            Checks.give(kit, 0, Code.give(7));
-            Checks.outcome("what came then", kit, 0, OutcomeKit.OK, 7, -1);
-        }
+        empties(OutcomeKit.UNBOUND, Code.leave(0), Code.again(3), Code.seq(Code.skip(), Code.leave(1)), Code.forty(Code.leave(2)));
     }
 
     private static void emptiesAtOk() {

@@ -177,7 +177,7 @@ public final class StepsTest {
     }
 
     private static void overAtOnce() {
-        Checks.about("Terms", "all is over at once: LONG");
+        Checks.about("Promise 9, Terms", "all is over at once: LONG");
         int[] forever = Code.loop(0, Code.num(1), Code.skip());
         OutcomeKit kit = Checks.kitWith(Code.seq(Code.say(1), Code.ensure(forever, Code.grab(0, 4, Code.say(2)), Code.say(3))));
         Checks.outcome("no catch, no finally part", kit, 0, OutcomeKit.LONG, 0, -1, 1);
@@ -188,7 +188,7 @@ public final class StepsTest {
     }
 
     private static void overInAnOperand() {
-        Checks.about("Terms", "all is over at once: LONG");
+        Checks.about("Promise 9, Terms", "all is over at once: LONG");
         int[] teller = Code.seq(Code.say(Code.var(0)), Code.give(Code.var(0)));
         int[] sum = Code.add(Code.call(1, Code.num(7)), Code.add(Code.call(1, Code.num(8)), Code.call(1, Code.num(9))));
         OutcomeKit kit = Checks.kitWith(Code.seq(Code.countdown(), Code.say(sum)), teller);

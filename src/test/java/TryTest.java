@@ -21,7 +21,7 @@ public final class TryTest {
     }
 
     private static void whichCatch() {
-        Checks.about("Terms, TRY", "the first C that is for this kind: the value becomes variable v, and then its S is done (if there is no such C it throws on)");
+        Checks.about("Promise 6, Terms, TRY", "the first C that is for this kind: the value becomes variable v, and then its S is done (if there is no such C it throws on)");
         for (int thrown = 0; thrown < 4; thrown++) {
             for (int c = 0; c <= 4; c++) {
                 int[] code = Code.attempt(Code.raise(thrown, 50), Code.grab(c, c, Code.say(Code.var(c))));
@@ -43,7 +43,7 @@ public final class TryTest {
     }
 
     private static void twoCatches() {
-        Checks.about("Terms, TRY", "the first C that is for this kind");
+        Checks.about("Promise 6, Terms, TRY", "the first C that is for this kind");
         int[] one = Code.grab(1, 1, Code.say(Code.add(Code.num(100), Code.var(1))));
         int[] two = Code.grab(2, 2, Code.say(Code.add(Code.num(200), Code.var(2))));
         int[] all = Code.grab(3, 4, Code.say(Code.add(Code.num(300), Code.var(3))));
@@ -62,7 +62,7 @@ public final class TryTest {
     }
 
     private static void catchEndings() {
-        Checks.about("Terms, TRY", "how that ends is how TRY ends so far");
+        Checks.about("Promise 6, Terms, TRY", "how that ends is how TRY ends so far");
         int[] bad = Code.raise(1, 5);
         Checks.returns("the catch returns", Code.seq(Code.attempt(bad, Code.grab(1, 1, Code.give(Code.var(1)))), NINE), 5);
         Checks.returns("the catch breaks", Code.seq(Code.loop(0, Code.num(1), Code.attempt(bad, Code.grab(1, 1, Code.leave(0)))), NINE), 0, 9);
@@ -73,7 +73,7 @@ public final class TryTest {
     }
 
     private static void finallyAfterAll() {
-        Checks.about("Terms, TRY", "With a finally part that is done then, however the rest ended: if it ends normally, TRY ends as the rest did");
+        Checks.about("Promise 6, Terms, TRY", "With a finally part that is done then, however the rest ended: if it ends normally, TRY ends as the rest did");
         Checks.returns("after the end", Code.seq(Code.ensure(Code.say(1), NINE), Code.say(2)), 0, 1, 9, 2);
         Checks.returns("after RETURN", Code.seq(Code.ensure(Code.give(1), NINE), Code.say(2)), 1, 9);
         Checks.throwsOut("after THROW", Code.seq(Code.ensure(Code.raise(2, 1), NINE), Code.say(2)), 2, 1, 9);
@@ -91,7 +91,7 @@ public final class TryTest {
     }
 
     private static void finallyWins() {
-        Checks.about("Terms, TRY", "else as the finally part does");
+        Checks.about("Promise 6, Terms, TRY", "else as the finally part does");
         int[][] rests = {Code.skip(), Code.give(1), Code.raise(1, 1)};
         for (int i = 0; i < rests.length; i++) {
             Checks.returns("RETURN wins " + i, Code.seq(Code.ensure(rests[i], Code.give(5)), NINE), 5);
@@ -105,7 +105,7 @@ public final class TryTest {
     }
 
     private static void nested() {
-        Checks.about("Terms, TRY", "TRY: the S; if it throws, the first C that is for this kind");
+        Checks.about("Promise 6, Terms, TRY", "TRY: the S; if it throws, the first C that is for this kind");
         Checks.throwsOut("from within", Code.ensure(Code.ensure(Code.raise(1, 4), Code.say(1)), Code.say(2)), 1, 4, 1, 2);
         Checks.returns("caught without", Code.attempt(Code.ensure(Code.raise(1, 4), Code.say(1)), Code.grab(0, 1, Code.say(Code.var(0)))), 0, 1, 4);
         Checks.returns("another one without", Code.attempt(Code.ensure(Code.raise(1, 4), Code.raise(2, 5)), Code.grab(0, 1, Code.say(1)),
@@ -120,7 +120,7 @@ public final class TryTest {
     }
 
     private static void loops() {
-        Checks.about("Terms, TRY", "With a finally part that is done then, however the rest ended");
+        Checks.about("Promise 6, Terms, TRY", "With a finally part that is done then, however the rest ended");
         int[] count = Code.set(0, Code.add(Code.var(0), Code.num(1)));
         int[] below2 = Code.less(Code.var(0), Code.num(2));
         Checks.returns("BREAK through finally", Code.seq(Code.loop(0, Code.num(1), Code.seq(Code.ensure(Code.leave(0), Code.say(1)), Code.say(2))), Code.say(3)), 0, 1, 3);
@@ -158,7 +158,7 @@ public final class TryTest {
     }
 
     private static void everyRestAndFinallyPart() {
-        Checks.about("Terms, TRY", "if it ends normally, TRY ends as the rest did; else as the finally part does");
+        Checks.about("Promise 6, Terms, TRY", "if it ends normally, TRY ends as the rest did; else as the finally part does");
         for (int rest = 0; rest < 5; rest++) {
             for (int last = 0; last < 5; last++) {
                 int[] code = Code.ensure(endings(21)[rest], Code.seq(NINE, endings(34)[last]));
@@ -168,7 +168,7 @@ public final class TryTest {
     }
 
     private static void everyCatchAndFinallyPart() {
-        Checks.about("Terms, TRY", "how that ends is how TRY ends so far; if it ends normally, TRY ends as the rest did; else as the finally part does");
+        Checks.about("Promise 6, Terms, TRY", "how that ends is how TRY ends so far; if it ends normally, TRY ends as the rest did; else as the finally part does");
         for (int caught = 0; caught < 5; caught++) {
             for (int last = 0; last < 5; last++) {
                 int[] handler = Code.grab(2, 3, Code.seq(Code.say(Code.var(2)), endings(21)[caught]));
@@ -179,7 +179,7 @@ public final class TryTest {
     }
 
     private static void everyCatch() {
-        Checks.about("Terms, TRY", "how that ends is how TRY ends so far");
+        Checks.about("Promise 6, Terms, TRY", "how that ends is how TRY ends so far");
         for (int ending = 0; ending < 5; ending++) {
             int[] other = Code.grab(2, 2, Code.say(8));
             int[] handler = Code.grab(2, 3, Code.seq(Code.say(Code.var(2)), endings(21)[ending]));
@@ -190,7 +190,7 @@ public final class TryTest {
     }
 
     private static void caughtValues() {
-        Checks.about("Terms, TRY", "the value becomes variable v; CATCH's c is 8 v + k, k being 0..3, or 4 for all");
+        Checks.about("Promise 6, Terms, TRY", "the value becomes variable v; CATCH's c is 8 v + k, k being 0..3, or 4 for all");
         for (int v = 0; v < 6; v++) {
             for (int k = 0; k <= 4; k++) {
                 for (int value : new int[] {Integer.MIN_VALUE, 0, Integer.MAX_VALUE}) {
@@ -202,7 +202,7 @@ public final class TryTest {
     }
 
     private static void caughtInOperands() {
-        Checks.about("Terms, TRY", "if it throws, the first C that is for this kind");
+        Checks.about("Promise 6, Terms, TRY", "if it throws, the first C that is for this kind");
         OutcomeKit kit = Checks.kitWith(Code.give(Code.add(Code.num(1000), Code.add(Code.call(1, Code.num(5)), Code.num(30)))));
         Checks.give(kit, 1, Code.attempt(Code.set(1, Code.add(Code.num(2), Code.mul(Code.num(7), Code.div(Code.var(0), Code.num(0))))),
             Code.grab(2, 0, Code.give(Code.add(Code.var(2), Code.num(1))))));
@@ -210,7 +210,7 @@ public final class TryTest {
     }
 
     private static void callsInFinally() {
-        Checks.about("Terms, TRY", "With a finally part that is done then, however the rest ended");
+        Checks.about("Promise 6, Terms, TRY", "With a finally part that is done then, however the rest ended");
         OutcomeKit kit = Checks.kitWith(Code.ensure(Code.raise(2, 5), Code.say(Code.call(1, Code.num(3)))));
         Checks.give(kit, 1, Code.ensure(Code.give(Code.var(0)), Code.attempt(Code.raise(1, 4), Code.grab(1, 1, Code.say(Code.var(1))))));
         Checks.outcome("CALL in finally", kit, 0, OutcomeKit.THROWN, 5, 2, 4, 3);
@@ -222,7 +222,7 @@ public final class TryTest {
     }
 
     private static void deepNests() {
-        Checks.about("Terms, TRY", "TRY: a statement S of at most 40 tokens");
+        Checks.about("Promise 6, Terms, TRY", "TRY: a statement S of at most 40 tokens");
         int[] code = Code.give(Code.var(0));
         for (int i = 0; i < 19; i++) {
             code = Code.ensure(code, Code.skip());
