@@ -15,7 +15,7 @@ import java.util.regex.Pattern;
 
 /** The rules of LANGUAGE.md that a program can look at: members, types, words, calls. Run it in the project's folder. */
 public final class LanguageTest {
-    private static final Set<String> FACE = Set.of("token", "define", "place", "drop", "run", "result", "kind", "steps", "says", "said");
+    static final Set<String> FACE = Set.of("token", "define", "place", "drop", "run", "result", "kind", "steps", "says", "said");
     private static final Set<String> CONSTANTS = Set.of("OK", "SHAPE", "UNBOUND", "THROWN", "LONG", "BAD");
     private static final List<Class<?>> TYPES = Arrays.asList(int.class, long.class, boolean.class, int[].class, boolean[].class, void.class);
     private static final String[] FORBIDDEN = {"import", "package", "throw", "try", "catch", "finally", "synchronized", "assert",
